@@ -35,8 +35,11 @@ final class Check {
     /** Feeds a text, with blanks to the next twenty bytes: how many bytes the text has. */
     static int feed(TermRules x, String text) {
         for (int from = 0; from < text.length(); from += 20) {
-            x.feed(four(text, from), four(text, from + 4), four(text, from + 8),
+            int fed = x.feed(four(text, from), four(text, from + 4), four(text, from + 8),
                     four(text, from + 12), four(text, from + 16));
+            if (fed == TermRules.NONE) {
+                throw new IllegalArgumentException("too long for the tape: " + text);
+            }
         }
         return text.length();
     }

@@ -1,3 +1,6 @@
+import java.util.ArrayList;
+import java.util.Collections;
+import java.util.List;
 import java.util.Random;
 
 /** All promises at once: runs of made-up calls, each answer held against the Oracle's. */
@@ -5,6 +8,18 @@ public final class OracleTest {
     private static final Check CHECK = new Check("OracleTest");
     private static final String[] SYMBOLS = {"f", "g", "h", "a", "b", "c", "long1"};
     private static final String[] VARIABLES = {"X", "Y", "Z", "Abc9"};
+    /** Rules with which there is much to do; f has 2 parts here, g and h one. */
+    private static final String[] KNOWN = {
+        "f(a,Y)=Y;f(g(X),Y)=g(f(X,Y));",
+        "f(a,X)=X;f(X,a)=X;f(g(X),X)=a;f(X,g(X))=a;f(f(X,Y),Z)=f(X,f(Y,Z));g(a)=a;g(g(X))=X;"
+            + "f(X,f(g(X),Y))=Y;f(g(X),f(X,Y))=Y;g(f(X,Y))=f(g(Y),g(X));",
+        "f(f(X,Y),Z)=f(X,f(Y,Z));f(X,X)=X;",
+        "g(g(X))=h(X);h(h(X))=g(X);g(h(X))=X;h(g(X))=X;",
+        "f(a,X)=a;f(b,X)=X;g(a)=b;g(b)=a;h(X)=f(X,g(X));",
+        "h(a)=a;h(g(X))=g(g(h(X)));f(a,Y)=Y;f(g(X),Y)=f(X,h(Y));",
+        "f(X,g(Y))=g(f(X,Y));f(g(X),Y)=g(g(f(X,Y)));f(a,a)=b;g(b)=c;",
+        "h(f(X,Y))=f(h(Y),h(X));h(h(X))=X;f(X,a)=X;g(X)=f(X,X);",
+    };
 
     private final Random random;
     private final TermRules x = new TermRules();
@@ -12,6 +27,8 @@ public final class OracleTest {
     private final int[] parts = new int[SYMBOLS.length];
     private final int run;
     private int calls = 0;
+    /** The symbols that terms are made of. */
+    private int[] used = {0, 1, 2, 3, 4, 5};
 
     private OracleTest(int run) {
         this.run = run;
@@ -67,27 +84,73 @@ public final class OracleTest {
     }
 
     private void takeRules() {
+        if (random.nextInt(3) == 0) {
+            takeKnown();
+            return;
+        }
         StringBuilder text = new StringBuilder();
         int count = random.nextInt(12) == 0 ? random.nextInt(23) : random.nextInt(6);
         int depth = 1 + random.nextInt(random.nextInt(8) == 0 ? 5 : 3);
-        int symbols = 2 + random.nextInt(random.nextInt(10) == 0 ? 6 : 5);
+        used = everySymbol(2 + random.nextInt(random.nextInt(10) == 0 ? 6 : 5));
         for (int k = 0; k < count; k++) {
-            String front = term(depth, symbols, VARIABLES.length);
+            String front = term(depth);
             while (Character.isUpperCase(front.charAt(0)) && random.nextInt(40) > 0) {
-                front = term(depth, symbols, VARIABLES.length);
+                front = term(depth);
             }
-            text.append(front).append('=').append(other(front, depth, symbols)).append(';');
+            text.append(front).append('=').append(other(front, depth)).append(';');
         }
-        String all = spoil(text.toString());
+        takeRules(text.toString());
+    }
+
+    /** Some of the known rules, in some order, with other rules between now and then. */
+    private void takeKnown() {
+        parts[0] = 2;
+        parts[1] = 1;
+        parts[2] = 1;
+        used = everySymbol(6);
+        List<String> rules = new ArrayList<>(List.of(KNOWN[random.nextInt(KNOWN.length)].split(";")));
+        if (random.nextBoolean()) {
+            Collections.shuffle(rules, random);
+        }
+        if (random.nextInt(3) == 0) {
+            rules.remove(random.nextInt(rules.size()));
+        }
+        if (random.nextInt(3) == 0) {
+            String front = term(3);
+            if (!Character.isUpperCase(front.charAt(0))) {
+                rules.add(random.nextInt(rules.size() + 1), front + "=" + other(front, 2));
+            }
+        }
+        takeRules(String.join(";", rules) + ";");
+    }
+
+    private static int[] everySymbol(int count) {
+        int[] all = new int[count];
+        for (int k = 0; k < count; k++) {
+            all[k] = k;
+        }
+        return all;
+    }
+
+    private void takeRules(String text) {
+        String all = spoil(text);
         feed(all);
         int n = sometimesOff(all.length());
         due("rules(" + n + ") '" + all + "'", x.rules(n), oracle.rules(n));
         due("place()", x.place(), oracle.place());
+        List<Integer> known = new ArrayList<>();
+        for (int k = 0; k < SYMBOLS.length; k++) {
+            if (all.contains(SYMBOLS[k])) {
+                known.add(k);
+            }
+        }
+        boolean isAny = known.isEmpty() || random.nextInt(10) == 0;
+        used = isAny ? everySymbol(6) : known.stream().mapToInt(k -> k).toArray();
     }
 
-    private String other(String front, int depth, int symbols) {
+    private String other(String front, int depth) {
         for (int tries = 0; tries < 30; tries++) {
-            String other = term(random.nextInt(depth + 1), symbols, VARIABLES.length);
+            String other = term(random.nextInt(depth + 1));
             boolean isGood = true;
             for (String variable : VARIABLES) {
                 isGood &= !other.contains(variable) || front.contains(variable);
@@ -99,26 +162,21 @@ public final class OracleTest {
         return "a";
     }
 
-    private String term(int depth, int symbols, int variables) {
-        if (depth == 0 || random.nextInt(5) == 0) {
-            if (random.nextInt(3) > 0) {
-                return VARIABLES[random.nextInt(variables)];
+    private String term(int depth) {
+        int k = used[random.nextInt(used.length)];
+        if (depth == 0 || random.nextInt(6) == 0) {
+            for (int tries = 0; tries < 4 && parts[k] > 0; tries++) {
+                k = used[random.nextInt(used.length)];
             }
-            for (int tries = 0; tries < 5; tries++) {
-                int k = random.nextInt(symbols);
-                if (parts[k] == 0) {
-                    return SYMBOLS[k];
-                }
-            }
-            return VARIABLES[0];
+            boolean isVariable = parts[k] > 0 || random.nextInt(2) == 0;
+            return isVariable ? VARIABLES[random.nextInt(VARIABLES.length)] : SYMBOLS[k];
         }
-        int k = random.nextInt(symbols);
         if (parts[k] == 0) {
             return SYMBOLS[k];
         }
         StringBuilder text = new StringBuilder(SYMBOLS[k]).append('(');
         for (int p = 0; p < parts[k]; p++) {
-            text.append(p == 0 ? "" : ",").append(term(depth - 1, symbols, variables));
+            text.append(p == 0 ? "" : ",").append(term(depth - 1));
         }
         return text.append(')').toString();
     }
@@ -148,7 +206,7 @@ public final class OracleTest {
     }
 
     private void takeTerm() {
-        String text = spoil(term(random.nextInt(6), 6, VARIABLES.length));
+        String text = spoil(term(random.nextInt(8)));
         feed(text);
         int n = sometimesOff(text.length());
         due("reduce(" + n + ") '" + text + "'", x.reduce(n), oracle.reduce(n));
@@ -158,8 +216,8 @@ public final class OracleTest {
     }
 
     private void takePair() {
-        String one = term(random.nextInt(5), 6, VARIABLES.length);
-        String two = random.nextInt(4) == 0 ? one : term(random.nextInt(5), 6, VARIABLES.length);
+        String one = term(random.nextInt(6));
+        String two = random.nextInt(4) == 0 ? one : term(random.nextInt(6));
         String text = spoil(one + "=" + two);
         feed(text);
         int n = sometimesOff(text.length());
