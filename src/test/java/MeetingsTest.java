@@ -4,6 +4,7 @@ public final class MeetingsTest {
 
     public static void main(String[] args) {
         whereRulesMeet();
+        wideFronts();
         whereTheyDoNot();
         noSuch();
         closing();
@@ -38,6 +39,34 @@ public final class MeetingsTest {
         is("m(e,X)=X;m(i(X),X)=e;m(m(X,Y),Z)=m(X,m(Y,Z));", 0, "2 0 1 1", "2 1 1 0", "2 2 1 1");
         is("f(X,X)=X;f(g(Y),Z)=Z;", 1, "1 0 0 1");
         is("f(X,g(X))=a;f(Y,Y)=b;f(g(Z),U)=c;", 0, "2 0 0 0", "2 1 0 0");
+    }
+
+    /** Fronts with forty nodes. */
+    private static void wideFronts() {
+        StringBuilder due = new StringBuilder("f(V0");
+        StringBuilder front = new StringBuilder("f(X0");
+        for (int k = 1; k < 39; k++) {
+            due.append(",V").append(k);
+            front.append(",X").append(k);
+        }
+        String turned = front.substring(2) + ")";
+        TermRules x = is(front + ")=g(" + turned + ";" + front + ")=h(" + turned + ";", 0, "1 0 0 0");
+        CHECK.due("side 0", Check.side(x, 0, 0, false), "g" + due.substring(1) + ")");
+        CHECK.due("side 1", Check.side(x, 0, 1, true), "h" + due.substring(1) + ")");
+        is(front + ")=X0;" + front + ")=X38;", 0, "1 0 0 0");
+        is(front + ")=X38;" + front + ")=X38;", 1, "1 0 0 1");
+        is("f(" + Check.repeat("a,", 38) + "X)=X;" + front + ")=X38;", 1, "1 0 0 1");
+        is(Check.nest("s", 39, "X") + "=X;s(a)=a;", 1, wideDue());
+    }
+
+    private static String[] wideDue() {
+        String[] due = new String[39];
+        for (int p = 1; p <= 38; p++) {
+            due[p - 1] = "0 0 " + p + " 1";
+        }
+        // The second front meets only the innermost s, which is read last.
+        due[38] = "0 1 38 1";
+        return due;
     }
 
     private static void whereTheyDoNot() {

@@ -90,6 +90,7 @@ public final class ReduceTest {
         bad("g(X,b)", -3, 0);
         bad("f(g,b)", -3, 2);
         bad("f(a,ff)", -3, 4);
+        bad("f(" + Check.repeat("a,", 1998) + "a)", -3, 0);
         TermRules x = Check.with("f(X)=a;");
         CHECK.due("a variable's name of the rules is free", Check.reduce(x, "f(X)"), 1);
         CHECK.due("fifty-nine others", Check.reduce(x, Check.nest("f", 59, "Q")), 59);
@@ -184,6 +185,12 @@ public final class ReduceTest {
         CHECK.due("result of 4000 bytes", x.result(), 4000);
         CHECK.due("one step", Check.reduce(x, lengthen(all + "a))", 4000)), 1);
         CHECK.due("result of 4001 bytes", x.result(), -1);
+        // However much is too much, and wherever in it the 4000th byte is.
+        for (int more = 1; more <= 12; more++) {
+            String text = lengthen("w(w(" + Check.repeat("a,", more) + all.substring(4 + 3 * more) + "C))", 4000);
+            CHECK.due("so many steps", Check.reduce(x, text), more);
+            CHECK.due("result of " + more + " bytes more", x.result(), -1);
+        }
     }
 
     /** Makes names Ab longer, up to twelve bytes, until the text has that many bytes. */
