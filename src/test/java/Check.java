@@ -24,6 +24,27 @@ final class Check {
         }
     }
 
+    /** What rules() of a text, and then place(), must answer on an object that had other rules. */
+    void rulesDue(String text, int answer, int place) {
+        TermRules x = with("q=r;");
+        due("rules of '" + text + "'", rules(x, text), answer);
+        due("place() after '" + text + "'", x.place(), place);
+    }
+
+    /** What reduce() of a text, and then place(), must answer by these rules. */
+    void termDue(String rules, String text, int answer, int place) {
+        TermRules x = with(rules);
+        due("reduce '" + text + "' by " + rules, reduce(x, text), answer);
+        due("place() after '" + text + "'", x.place(), place);
+    }
+
+    /** What same() of a text, and then place(), must answer by these rules. */
+    void pairDue(String rules, String text, int answer, int place) {
+        TermRules x = with(rules);
+        due("same '" + text + "' by " + rules, same(x, text), answer);
+        due("place() after '" + text + "'", x.place(), place);
+    }
+
     /** Ends the program with 1 when an answer was not the one that was due, or none was asked for. */
     void finish() {
         System.out.println(test + ": " + asked + " answers, " + wrong + " wrong");
@@ -94,6 +115,24 @@ final class Check {
 
     private static String lengthSeen(int length, String text) {
         return length == text.length() ? text : text + " (but answered " + length + ")";
+    }
+
+    /** The answers of all calls that tell something and change nothing. */
+    static String seen(TermRules x) {
+        StringBuilder all = new StringBuilder("place " + x.place() + ", symbols " + x.symbols() + ", parts");
+        for (int k = 0; k < 7; k++) {
+            all.append(' ').append(x.parts(k));
+        }
+        all.append(", order");
+        for (int k = 0; k < 7; k++) {
+            all.append(' ').append(x.order(k));
+        }
+        all.append(", sure ").append(x.isSure()).append(", meetings");
+        for (int k = 0; k < x.meetings(); k++) {
+            all.append(' ').append(x.meeting(k, 0)).append('/').append(x.meeting(k, 1)).append('/');
+            all.append(x.meeting(k, 2)).append('/').append(x.closes(k));
+        }
+        return all.append(", written ").append(written(x)).toString();
     }
 
     static String repeat(String text, int times) {
