@@ -547,7 +547,10 @@ public final class TermRules {
     /** A side of a rule. */
     private static final class Side {
         final int[] codes = new int[SIDE_NODES];
-        /** How many nodes each part has: the next part beside it begins so many nodes later. */
+        /**
+         * How many nodes each part has: the next part beside it begins so many nodes later. A loop
+         * over parts goes on by one at least, so that its end can be seen whatever stands here.
+         */
         final int[] sizes = new int[SIDE_NODES];
         int count = 0;
 
@@ -811,7 +814,7 @@ public final class TermRules {
                 return 0;
             }
             long bits = 0;
-            for (int c = s + 1; c < s + front.sizes[s]; c += front.sizes[c]) {
+            for (int c = s + 1; c < s + front.sizes[s]; c += Math.max(1, front.sizes[c])) {
                 bits |= front.hasSamePart(c, other, t) ? ALL : above[c * SIDE_NODES + t];
             }
             return other.codes[t] < 0 ? bits : bits | overPartsBits(front, s, other, t);
@@ -822,7 +825,7 @@ public final class TermRules {
             int f = front.codes[s];
             int g = other.codes[t];
             long bits = f == g ? differenceBits(front, s, other, t) : before[f * MOST_SYMBOLS + g];
-            for (int d = t + 1; d < t + other.sizes[t] && bits != 0; d += other.sizes[d]) {
+            for (int d = t + 1; d < t + other.sizes[t] && bits != 0; d += Math.max(1, other.sizes[d])) {
                 bits &= above[s * SIDE_NODES + d];
             }
             return bits;
@@ -830,7 +833,7 @@ public final class TermRules {
 
         private long differenceBits(Side front, int s, Side other, int t) {
             int d = t + 1;
-            for (int c = s + 1; c < s + front.sizes[s]; c += front.sizes[c]) {
+            for (int c = s + 1; c < s + front.sizes[s]; c += Math.max(1, front.sizes[c])) {
                 if (!front.hasSamePart(c, other, d)) {
                     return above[c * SIDE_NODES + d];
                 }
@@ -1170,11 +1173,11 @@ public final class TermRules {
         private int layParts(int[] stack, int node) {
             int end = node + sizes[node];
             int n = 0;
-            for (int part = node + 1; part < end; part += sizes[part]) {
+            for (int part = node + 1; part < end; part += Math.max(1, sizes[part])) {
                 n++;
             }
             int place = waiting + n;
-            for (int part = node + 1; part < end; part += sizes[part]) {
+            for (int part = node + 1; part < end; part += Math.max(1, sizes[part])) {
                 stack[--place] = part;
             }
             return n;
@@ -1207,7 +1210,7 @@ public final class TermRules {
                 return true;
             }
             int end = node + sizes[node];
-            for (int part = node + 1; part < end; part += sizes[part]) {
+            for (int part = node + 1; part < end; part += Math.max(1, sizes[part])) {
                 if (!isSeen[classOf(part)]) {
                     return false;
                 }

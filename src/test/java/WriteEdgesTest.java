@@ -196,6 +196,7 @@ public final class WriteEdgesTest {
         TermRules x = Check.with("q(X)=w(X" + ",X".repeat(38) + ");q(" + Check.nest("u", 38, "z") + ")=z;");
         CHECK.due("1522 nodes", x.write(0, 0, false), -1);
         CHECK.due("1522 nodes, reduced", x.write(0, 0, true), -4);
+        CHECK.due("the other side after it", Check.side(x, 0, 1, false), "z");
         StringBuilder one = new StringBuilder();
         StringBuilder two = new StringBuilder();
         for (int k = 1; k <= 9; k++) {
