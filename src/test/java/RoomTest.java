@@ -1,5 +1,3 @@
-import com.sun.management.ThreadMXBean;
-import java.lang.management.ManagementFactory;
 import java.lang.reflect.Array;
 import java.lang.reflect.Field;
 import java.lang.reflect.Modifier;
@@ -14,6 +12,8 @@ public final class RoomTest {
     private static final Check CHECK = new Check("RoomTest");
     private static final int MOST_OBJECTS = 600;
     private static final int MOST_ELEMENTS = 80_000;
+    /** What asking for the count makes by itself. */
+    private static final int MOST_MADE = 20_000;
 
     private final Set<Object> seen = Collections.newSetFromMap(new IdentityHashMap<>());
     private final Deque<Object> open = new ArrayDeque<>();
@@ -97,21 +97,31 @@ public final class RoomTest {
 
     /** What a call makes and drops again takes room as well. */
     private static void nothingIsMade(TermRules x) {
-        if (!(ManagementFactory.getThreadMXBean() instanceof ThreadMXBean threads)) {
-            return;
-        }
-        for (int round = 0; round < 3; round++) {
-            Check.rules(x, "f(g(X),Y)=f(X,h(Y));g(g(X))=X;h(a)=g(a);");
-            Check.feed(x, "f(g(g(g(a))),Q)");
-            long before = threads.getCurrentThreadAllocatedBytes();
-            x.reduce(15);
+        madeSoFar();
+        long before = madeSoFar();
+        for (int round = 0; round < 100; round++) {
+            // "f(f(X))=X;f(a)=a;", then "f(f(f(a)))", then something that is no text.
+            x.feed(0x66286628, 0x5829293d, 0x583b6628, 0x61293d61, 0x3b202020);
+            x.rules(20);
+            x.feed(0x66286628, 0x66286129, 0x29292020, 0x20202020, 0x20202020);
+            x.reduce(20);
             askAll(x);
             x.feed(1, 2, 3, 4, 5);
             x.same(20);
-            x.rules(0);
-            askAll(x);
-            long made = threads.getCurrentThreadAllocatedBytes() - before;
-            CHECK.due("bytes made by calls: " + made, round > 0 && made > 1000 ? 1 : 0, 0);
+        }
+        long made = madeSoFar() - before;
+        CHECK.due("the rules are taken", x.symbols(), 2);
+        CHECK.due("bytes made by some seven thousand calls: " + made, made > MOST_MADE ? 1 : 0, 0);
+    }
+
+    /** How many bytes this thread has taken; always 0 where the machine has no such count. */
+    private static long madeSoFar() {
+        try {
+            Object threads = Class.forName("java.lang.management.ManagementFactory").getMethod("getThreadMXBean").invoke(null);
+            return (long) Class.forName("com.sun.management.ThreadMXBean")
+                    .getMethod("getCurrentThreadAllocatedBytes").invoke(threads);
+        } catch (ReflectiveOperationException noCount) {
+            return 0;
         }
     }
 }
